@@ -488,7 +488,7 @@ public final class Patternforge {
             if (kind == NUMBER) {
                 return DIGITS;
             }
-            return kind == SEQUENCE ? LONGEST + 1 : countOf(kind);
+            return kind == SEQUENCE ? LONGEST + 1 : atOrZero(counts, kind);
         }
     }
 
@@ -777,7 +777,7 @@ public final class Patternforge {
 
         /** How many numbers a view may give. */
         int manyOf(int view) {
-            return get(view, M);
+            return at(cells, view * CELLS + M);
         }
 
         int change(int view, int a, int b, int c, int m) {
@@ -829,7 +829,7 @@ public final class Patternforge {
         }
 
         boolean has(int number) {
-            return isIn(number, 0, caseCount - 1);
+            return 0 <= number && number < caseCount;
         }
 
         int get(int number, int cell) {

@@ -52,7 +52,7 @@ final class Due {
     }
 
     /** Whether the class, or the model, made the exception itself: the machine's have other texts. */
-    private static boolean isThrown(RuntimeException e) {
+    static boolean isThrown(RuntimeException e) {
         String text = e.getMessage();
         return text == null || text.startsWith("there is no such") || text.startsWith("this can not");
     }
