@@ -349,12 +349,36 @@ public final class Patternforge {
         boolean isBound = false;
         for (int i = 0; i < match.columns(); i++) {
             int pattern = match.get(number, i);
-            isBound |= patterns.binds(pattern, name);
-            if (patterns.bindsOther(pattern, match.kindOf(i), name, kinds, 0)) {
+            isBound = isBound || patterns.binds(pattern, name);
+            if (bindsOther(patterns, kinds, pattern, match.kindOf(i), name, 0)) {
                 return false;
             }
         }
         return isBound;
+    }
+
+    /** Whether a pattern for values of a kind binds a name somewhere to what is no number. */
+    private static boolean bindsOther(Patterns patterns, Kinds kinds, int pattern, int kind, int name, int level) {
+        if (level > LARGEST || !patterns.binds(pattern, name)) {
+            return false;
+        }
+        int sort = patterns.sortOf(pattern);
+        int low = patterns.lowOf(pattern);
+        if (sort == Patterns.NAMED && low == name) {
+            return kind != NUMBER;
+        }
+        for (int i = 0; i < patterns.partCount(pattern); i++) {
+            int partKind = kind;
+            if (sort == Patterns.MAKE) {
+                partKind = kinds.fieldKind(kind, low, i);
+            } else if (patterns.isList(pattern)) {
+                partKind = NUMBER;
+            }
+            if (bindsOther(patterns, kinds, patterns.partOf(pattern, i), partKind, name, level + 1)) {
+                return true;
+            }
+        }
+        return false;
     }
 
     private void demandValues(int many, int first, int second, int third) {
@@ -624,6 +648,10 @@ public final class Patternforge {
             return atOrZero(partCounts, pattern);
         }
 
+        boolean isList(int pattern) {
+            return sortOf(pattern) == FIRST_ONES || sortOf(pattern) == LAST_ONES;
+        }
+
         /** Whether a pattern that holds the head of a value is content with that. */
         boolean accepts(int pattern, int head) {
             return at(lows, pattern) <= head && head <= at(highs, pattern);
@@ -715,25 +743,6 @@ public final class Patternforge {
                 default:
                     return 0;
             }
-        }
-
-        /** Whether a pattern for values of a kind binds a name somewhere to what is no number. */
-        private boolean bindsOther(int pattern, int kind, int name, Kinds types, int level) {
-            if (level > LARGEST || !binds(pattern, name)) {
-                return false;
-            }
-            int sort = sortOf(pattern);
-            if (sort == NAMED && lowOf(pattern) == name) {
-                return kind != NUMBER;
-            }
-            boolean isList = sort == FIRST_ONES || sort == LAST_ONES;
-            for (int i = 0; i < PARTS; i++) {
-                int partKind = sort == MAKE ? types.fieldKind(kind, lowOf(pattern), i) : isList ? NUMBER : kind;
-                if (bindsOther(partOf(pattern, i), partKind, name, types, level + 1)) {
-                    return true;
-                }
-            }
-            return false;
         }
 
         private int digitsOf(int pattern) {
@@ -1068,7 +1077,7 @@ public final class Patternforge {
                             || fitsAt(patterns.partOf(pattern, 1), place, level + 1);
                 case Patterns.VIEW:
                     int number = course.look(patterns.lowOf(pattern), place);
-                    return fitsNumber(patterns.partOf(pattern, 0), number, level + 1);
+                    return fitsNumber(patterns, course, patterns.partOf(pattern, 0), number, level + 1);
                 default:
                     return fitsHead(pattern, place, level);
             }
@@ -1090,7 +1099,7 @@ public final class Patternforge {
             return true;
         }
 
-        private boolean fitsNumber(int pattern, int number, int level) {
+        private static boolean fitsNumber(Patterns patterns, Course course, int pattern, int number, int level) {
             if (level > LARGEST) {
                 return false;
             }
@@ -1098,8 +1107,8 @@ public final class Patternforge {
                 case Patterns.ANY:
                     return true;
                 case Patterns.EITHER:
-                    return fitsNumber(patterns.partOf(pattern, 0), number, level + 1)
-                            || fitsNumber(patterns.partOf(pattern, 1), number, level + 1);
+                    return fitsNumber(patterns, course, patterns.partOf(pattern, 0), number, level + 1)
+                            || fitsNumber(patterns, course, patterns.partOf(pattern, 1), number, level + 1);
                 default:
                     course.countTest();
                     return patterns.accepts(pattern, number);
@@ -1271,7 +1280,7 @@ public final class Patternforge {
                     return failing;
                 case Patterns.VIEW:
                     write(LOOK, depth, low, 0, NONE);
-                    return writeNumbers(patterns.partOf(pattern, 0), chain, level + 1);
+                    return writeNumbers(this, patterns.partOf(pattern, 0), chain, level + 1);
                 default:
                     return writeParts(pattern, depth, write(HOLD, depth, low, patterns.highOf(pattern), chain), level);
             }
@@ -1299,18 +1308,19 @@ public final class Patternforge {
         }
 
         /** Likewise for the pattern of a view, which holds what that gave. */
-        private int writeNumbers(int pattern, int chain, int level) {
-            if (level > LARGEST || patterns.sortOf(pattern) == Patterns.ANY) {
+        private static int writeNumbers(Automaton row, int pattern, int chain, int level) {
+            Patterns all = row.patterns;
+            if (level > LARGEST || all.sortOf(pattern) == Patterns.ANY) {
                 return chain;
             }
-            if (patterns.sortOf(pattern) != Patterns.EITHER) {
-                return write(HOLD_GIVEN, 0, patterns.lowOf(pattern), patterns.highOf(pattern), chain);
+            if (all.sortOf(pattern) != Patterns.EITHER) {
+                return row.write(HOLD_GIVEN, 0, all.lowOf(pattern), all.highOf(pattern), chain);
             }
-            int missed = writeNumbers(patterns.partOf(pattern, 0), NONE, level + 1);
-            int around = write(GO, 0, 0, 0, NONE);
-            land(missed);
-            int failing = writeNumbers(patterns.partOf(pattern, 1), chain, level + 1);
-            land(around);
+            int missed = writeNumbers(row, all.partOf(pattern, 0), NONE, level + 1);
+            int around = row.write(GO, 0, 0, 0, NONE);
+            row.land(missed);
+            int failing = writeNumbers(row, all.partOf(pattern, 1), chain, level + 1);
+            row.land(around);
             return failing;
         }
     }

@@ -61,6 +61,7 @@ public final class FaceTest {
         for (Class<?> c : classes()) {
             language(due, c);
         }
+        due.holds(classes().size() + " classes", classes().size() <= 12);
         source(due);
         due.end();
     }

@@ -16,6 +16,7 @@ public final class MatchTest {
         guardOutcomes();
         split();
         splitKeeps();
+        viewsWithin();
         merge();
         mergeLimits();
         splitAndMerge();
@@ -215,6 +216,7 @@ public final class MatchTest {
         due.is("P17 the second alternative", () -> x.run(0, 1, 0, NONE), 5);
         due.is("P17 taken, the second one", () -> x.taken(1), 1);
         due.fails(Due.STATE, "P17 once is enough", () -> x.split(0, 0));
+        due.fails(Due.STATE, "P17 once is enough, the second one", () -> x.split(1, 0));
         x.add(x.name(1, any), both, NONE, 9);
         x.guard(4, 0, 1, 5);
         due.fails(Due.STATE, "P17 a guard", () -> x.split(4, 1));
@@ -255,6 +257,33 @@ public final class MatchTest {
         for (int i = 0; i < 4; i++) {
             int n = i;
             due.is("P17 run of " + i, () -> x.run(3, n, NONE, NONE), result[i]);
+        }
+    }
+
+    /** A view anywhere in the pattern keeps a case from being split or merged there. */
+    private static void viewsWithin() {
+        for (int field = 0; field < 4; field++) {
+            Patternforge x = new Patternforge();
+            x.constructor(0, 3, NUMBER, NUMBER, SEQUENCE);
+            x.constructor(1, 1, 0, 0, 0);
+            int any = x.any();
+            int[] f = {any, any, any};
+            if (field < 2) f[field] = x.name(0, x.view(2, any));
+            if (field == 2) f[2] = x.list(2, any, x.name(0, x.view(1, any)), 1);
+            int inner = x.make(0, 0, field == 3 ? x.name(0, any) : f[0], f[1], f[2]);
+            int pattern = x.make(1, 0, inner, NONE, NONE);
+            int both = x.either(pattern, pattern);
+            x.begin(1, 1, 0, 0);
+            x.add(both, NONE, NONE, 1);
+            x.add(pattern, NONE, NONE, 2);
+            x.add(pattern, NONE, NONE, 2);
+            if (field < 3) {
+                due.fails(Due.STATE, "P17 a view within, " + field, () -> x.split(0, 0));
+                due.fails(Due.STATE, "P18 a view within, " + field, () -> x.merge(1, 0));
+            } else {
+                due.is("P17 no view within", () -> x.split(0, 0), 4);
+                due.is("P18 no view within", () -> x.merge(2, 0), 3);
+            }
         }
     }
 

@@ -17,6 +17,7 @@ public final class PatternsTest {
         view();
         list();
         setView();
+        viewsAtFirst();
         due.end();
     }
 
@@ -284,6 +285,22 @@ public final class PatternsTest {
                     due.is("P12 tests", () -> x.tests(), fits ? 1 + many : 1);
                 }
             }
+        }
+    }
+
+    /** The numbers 1, 0, 0 and 10: a view gives the last digit of the measure. */
+    private static void viewsAtFirst() {
+        Patternforge x = new Patternforge();
+        int any = x.any();
+        x.seq(3, 7, 0, 6);
+        x.num(8);
+        x.begin(2, SEQUENCE, NUMBER, 0);
+        x.add(x.either(x.view(0, x.range(3, 3)), x.view(1, any)), x.view(2, any), NONE, 1);
+        for (int engine = 0; engine < 2; engine++) {
+            x.run(engine, 0, 1, NONE);
+            due.is("P13 view 0 at first", () -> x.viewAt(0), 10 + 2);
+            due.is("P13 view 1 at first", () -> x.viewAt(1), 100010 + 2);
+            due.is("P13 view 2 at first", () -> x.viewAt(2), 200020 + 8);
         }
     }
 

@@ -15,6 +15,8 @@ public final class RunsTest {
         testsOfTrees();
         views();
         viewsOnce();
+        alternativesInViews();
+        firstValues();
         bound();
         taken();
         tooLarge();
@@ -248,6 +250,52 @@ public final class RunsTest {
         x.run(0, 0, 0, NONE);
         due.is("P21 0 and 0: views 0 and 1 at place 1, view 0 at place 2", () -> x.views(), 3);
         due.is("P22 the second one gives 0 + 1", () -> x.viewAt(1), 100011);
+    }
+
+    /** What a view gave is held against the first alternative, and then against the second one. */
+    private static void alternativesInViews() {
+        Patternforge x = new Patternforge();
+        int any = x.any(), low = x.range(0, 2), high = x.range(7, 9), five = x.range(5, 5);
+        int three = x.either(x.either(low, high), five);
+        int loose = x.either(x.range(4, 4), any);
+        x.begin(2, NUMBER, NUMBER, 0);
+        x.add(x.view(0, three), x.view(1, loose), NONE, 1);
+        x.add(any, x.view(1, x.either(any, low)), NONE, 2);
+        int four = x.num(4);
+        // Held against low; against low and high; and against all three.
+        int[] tests = {1, 1, 1, 3, 3, 3, 3, 2, 2, 2};
+        for (int i = 0; i < 10; i++) {
+            int value = x.num(i), n = i;
+            boolean fits = i < 3 || i > 6 || i == 5;
+            for (int engine = 0; engine < 4; engine++) {
+                int e = engine;
+                due.is("P11 " + i + " by " + e, () -> x.run(e, value, four, NONE), fits ? 1 : 2);
+                due.is("P20 " + i + " by " + e, () -> x.tests(), e < 2 ? tests[n] + (fits ? 1 : 0) : 2);
+            }
+            due.is("P20 " + i + " as the second value", () -> x.run(1, four, value, NONE), 2);
+        }
+        int two = x.num(2);
+        for (int engine = 0; engine < 2; engine++) {
+            int e = engine;
+            due.is("P11 any behind 4", () -> x.run(e, two, two, NONE), 1);
+            due.is("P20 any is no test", () -> x.tests(), 2);
+        }
+    }
+
+    /** The first value of an object may be a sequence too. */
+    private static void firstValues() {
+        Patternforge x = new Patternforge();
+        int any = x.any();
+        int sequence = x.seq(2, 3, 8, 0);
+        x.begin(1, SEQUENCE, 0, 0);
+        x.add(x.list(2, x.range(3, 3), x.name(0, x.view(0, any)), Patternforge.NO_REST), NONE, NONE, 1);
+        x.guard(0, Patternforge.SAME, 0, 8);
+        for (int engine = 0; engine < 4; engine++) {
+            int e = engine;
+            due.is("P19 by " + e, () -> x.run(e, sequence, NONE, NONE), 1);
+            due.is("P22 by " + e, () -> x.viewAt(0), 78);
+            due.is("P23 by " + e, () -> x.bound(0), 7);
+        }
     }
 
     private static void bound() {

@@ -19,6 +19,7 @@ public final class TreesTest {
         firstAndMost();
         mostBySecondAlternatives();
         mostCountsCases();
+        mostOfKinds();
         sharing();
         kindsAtOnePlace();
         examples();
@@ -235,6 +236,39 @@ public final class TreesTest {
         // is not the same behind both, and 2, 3 and 8.
         due.is("P25 FIRST by levels, shared", () -> x.size(FIRST, true), 4 + 7);
         due.is("P25 MOST by levels, shared", () -> x.size(MOST, true), 4 + 6);
+    }
+
+    /** Two places that are needed as often, and one that is needed once more, whatever their kinds. */
+    private static void mostOfKinds() {
+        for (int kind = 0; kind <= SEQUENCE; kind++) {
+            for (int other = 0; other <= SEQUENCE; other++) {
+                Patternforge x = new Patternforge();
+                for (int type = 0; type < 4; type++) {
+                    for (int i = 0; i < type + 2 && i < 4; i++) x.constructor(type, 0, 0, 0, 0);
+                }
+                int[] heads = {2, 3, 4, 4, 10, 4};
+                int any = x.any();
+                int one = simple(x, kind), two = simple(x, other);
+                // Case 0 comes to place 2 first, and FIRST asks that.
+                x.begin(2, kind, other, 0);
+                x.add(any, two, NONE, 1);
+                x.add(one, any, NONE, 2);
+                int a = heads[kind], b = heads[other];
+                due.is("P25 kinds, FIRST", () -> x.size(FIRST, false), 2 + (b - 1) * (1 + a));
+                due.is("P25 kinds, once each", () -> x.size(MOST, false), 1 + a * (1 + b));
+                x.add(any, two, NONE, 3);
+                due.is("P25 kinds, place 2 twice", () -> x.size(MOST, false), 2 + (b - 1) * (1 + a));
+                x.add(one, any, NONE, 4);
+                x.add(one, any, NONE, 5);
+                due.is("P25 kinds, place 1 thrice", () -> x.size(MOST, false), 1 + a * (1 + b));
+            }
+        }
+    }
+
+    /** A pattern that one constructor, number or length of a kind fits. */
+    private static int simple(Patternforge x, int kind) {
+        if (kind == NUMBER) return x.range(7, 7);
+        return kind == SEQUENCE ? x.list(0, NONE, NONE, Patternforge.NO_REST) : x.make(kind, 1, NONE, NONE, NONE);
     }
 
     private static void sharing() {
