@@ -350,6 +350,13 @@ final class Model {
         }
     }
 
+    /** The kinds of all that a case may bind a name to. */
+    Set<Integer> kindsOf(int number, int name) {
+        Set<Integer> found = new TreeSet<>();
+        for (int i = 0; i < width(); i++) kindsOf(pattern(caseAt(number).patterns[i]), columns.get(i), name, found);
+        return found;
+    }
+
     Case caseAt(int number) {
         index(in(number, 0, cases.size() - 1));
         return cases.get(number);
@@ -362,9 +369,7 @@ final class Model {
         if (guard == NONE) {
             argument(name == 0);
         } else {
-            Set<Integer> found = new TreeSet<>();
-            for (int i = 0; i < width(); i++) kindsOf(patterns.get(c.patterns[i]), columns.get(i), name, found);
-            argument(found.equals(Set.of(NUMBER)));
+            argument(kindsOf(number, name).equals(Set.of(NUMBER)));
         }
         argument(in(than, 0, 9));
         int before = c.guard;
@@ -385,14 +390,17 @@ final class Model {
     int split(int number, int column) {
         Case c = caseAt(number);
         index(in(column, 0, width() - 1));
-        state(c.guard == NONE);
-        Pattern p = patterns.get(c.patterns[column]);
-        state(p instanceof Either && !hasView(p));
-        state(cases.size() < 8);
-        Either e = (Either) p;
+        state(maySplit(number, column));
+        Either e = (Either) patterns.get(c.patterns[column]);
         cases.set(number, caseLike(c, column, identity(e.first)));
         cases.add(number + 1, caseLike(c, column, identity(e.second)));
         return cases.size();
+    }
+
+    boolean maySplit(int number, int column) {
+        if (!in(number, 0, cases.size() - 1) || !in(column, 0, width() - 1)) return false;
+        Pattern p = patterns.get(cases.get(number).patterns[column]);
+        return cases.get(number).guard == NONE && p instanceof Either && !hasView(p) && cases.size() < 8;
     }
 
     /** The number of this very pattern. */
@@ -405,15 +413,21 @@ final class Model {
         Case c = caseAt(number);
         Case d = caseAt(number + 1);
         index(in(column, 0, width() - 1));
-        state(c.guard == NONE && d.guard == NONE && c.result == d.result);
-        for (int i = 0; i < 3; i++) state(i == column || c.patterns[i] == d.patterns[i]);
-        Pattern p = patterns.get(c.patterns[column]), q = patterns.get(d.patterns[column]);
-        state(!hasView(p) && !hasView(q));
-        state(mayBeEither(p, q));
-        int both = keep(new Either(p, q));
+        state(mayMerge(number, column));
+        int both = keep(new Either(patterns.get(c.patterns[column]), patterns.get(d.patterns[column])));
         cases.set(number, caseLike(c, column, both));
         cases.remove(number + 1);
         return cases.size();
+    }
+
+    /** Whether a case and the next one could be one, were there room for a pattern. */
+    boolean mayMerge(int number, int column) {
+        if (!in(number, 0, cases.size() - 2) || !in(column, 0, width() - 1)) return false;
+        Case c = cases.get(number), d = cases.get(number + 1);
+        boolean areAlike = c.guard == NONE && d.guard == NONE && c.result == d.result;
+        for (int i = 0; i < 3; i++) areAlike = areAlike && (i == column || c.patterns[i] == d.patterns[i]);
+        Pattern p = patterns.get(c.patterns[column]), q = patterns.get(d.patterns[column]);
+        return areAlike && !hasView(p) && !hasView(q) && mayBeEither(p, q);
     }
 
     // ---- runs

@@ -1,6 +1,7 @@
 import java.util.ArrayList;
 import java.util.List;
 import java.util.Random;
+import java.util.Set;
 import java.util.function.Supplier;
 
 /** Holds the class against the model, in sessions of up to 512 calls that a seed makes. */
@@ -38,7 +39,19 @@ public final class ModelTest {
             }
         }
         if (args.length > 2) System.out.println(counts);
+        if (args.length == 0) demandCame();
         System.out.println("ModelTest: " + (to - from) + " sessions as due; " + large + " of " + sizes + " sizes TOO_LARGE");
+    }
+
+    /** Sessions that come to nothing that is rare would agree whatever the class does there. */
+    private static void demandCame() {
+        for (String rare : List.of("guard ", "split ", "merge ", "example ", "isUsed ", "run(0 -2", "run(1 -2",
+                "run(2 -2", "run(3 -2", "run(3 -1", "run throws.IllegalStateException")) {
+            if (counts.getOrDefault(rare, 0) < 20) {
+                System.out.println("ModelTest: too few sessions came to " + rare + ": " + counts);
+                System.exit(1);
+            }
+        }
     }
 
     private int below(int n) { return random.nextInt(n); }
@@ -55,6 +68,7 @@ public final class ModelTest {
             if (want.equals("-3")) large++;
         }
         counts.merge(call.replaceAll("\\(.*", "") + " " + (want.startsWith("throws") ? want : ""), 1, Integer::sum);
+        if (call.startsWith("run") && want.startsWith("-")) counts.merge(call.substring(0, 5) + " " + want, 1, Integer::sum);
         return got.equals(want) ? null : call + " answered " + got + ", due is " + want;
     }
 
@@ -158,7 +172,7 @@ public final class ModelTest {
         int k = below(20);
         if (k == 0) return both("any()", () -> x.any(), () -> m.any());
         if (k < 4) {
-            int v = some(6), p = some(m.patterns.size());
+            int v = some(6), p = one(2) ? patternFor(Model.NUMBER) : some(m.patterns.size());
             return both("name(" + v + ", " + p + ")", () -> x.name(v, p), () -> m.name(v, p));
         }
         if (k < 6) {
@@ -214,9 +228,21 @@ public final class ModelTest {
                 () -> x.setView(v, a, b, c, many), () -> m.setView(v, a, b, c, many));
     }
 
+    /** A kind that a value has, if one is found: without one the match could not be run. */
+    private int columnKind() {
+        int kind = kind();
+        for (int i = 0; i < 10 && !one(wild) && !hasValueOf(kind); i++) kind = kind();
+        return kind;
+    }
+
+    private boolean hasValueOf(int kind) {
+        for (Model.Value v : m.values) if (Model.kind(v) == kind) return true;
+        return false;
+    }
+
     private String begin() {
         int n = one(wild) ? some(5) : 1 + below(3);
-        int a = kind(), b = n > 1 ? kind() : none(0), c = n > 2 ? kind() : none(0);
+        int a = columnKind(), b = n > 1 ? columnKind() : none(0), c = n > 2 ? columnKind() : none(0);
         return both("begin(" + n + ", " + a + ", " + b + ", " + c + ")", () -> x.begin(n, a, b, c), () -> m.begin(n, a, b, c));
     }
 
@@ -230,30 +256,76 @@ public final class ModelTest {
         int[] c = columns(true);
         if (!m.cases.isEmpty() && one(3)) c = m.cases.get(below(m.cases.size())).patterns.clone();
         if (m.width() > 1 && one(2)) c[below(m.width())] = patternFor(m.columns.get(0));
-        int[] p = c;
         int r = one(2) ? below(2) : some(100);
+        if (!m.cases.isEmpty() && one(4)) {
+            Model.Case last = m.cases.get(m.cases.size() - 1);
+            c = last.patterns.clone();
+            int column = below(m.width());
+            c[column] = alternativeFor(c[column]);
+            r = last.result;
+        }
+        return addAll(c, r);
+    }
+
+    /** A pattern that may stand beside another one in a pattern of alternatives. */
+    private int alternativeFor(int pattern) {
+        for (int i = 0; i < 30; i++) {
+            int p = below(m.patterns.size());
+            if (Model.mayBeEither(m.patterns.get(pattern), m.patterns.get(p))) return p;
+        }
+        return pattern;
+    }
+
+    private String addAll(int[] p, int r) {
         return both("add(" + p[0] + ", " + p[1] + ", " + p[2] + ", " + r + ")",
                 () -> x.add(p[0], p[1], p[2], r), () -> m.add(p[0], p[1], p[2], r));
     }
 
     private String guard() {
-        int n = some(m.cases.size()), g = one(4) ? -1 : some(4), v = g == -1 && !one(8) ? 0 : some(6), t = some(10);
+        int n = some(m.cases.size()), g = one(4) ? -1 : one(3) ? 3 : some(4), v = g == -1 && !one(8) ? 0 : some(6), t = some(10);
         if (n >= 0 && n < m.cases.size() && g != -1 && !one(4)) {
             List<Integer> names = new ArrayList<>();
-            for (int i = 0; i < m.width(); i++) names.addAll(Model.names(m.patterns.get(m.cases.get(n).patterns[i])));
+            boolean ofNumbers = !one(4);
+            for (int name = 0; name < 6; name++) {
+                Set<Integer> kinds = m.kindsOf(n, name);
+                if (ofNumbers ? kinds.equals(Set.of(4)) : !kinds.isEmpty()) names.add(name);
+            }
             if (!names.isEmpty()) v = names.get(below(names.size()));
         }
-        int name = v;
-        return both("guard(" + n + ", " + g + ", " + v + ", " + t + ")", () -> x.guard(n, g, name, t), () -> m.guard(n, g, name, t));
+        int name = v, than = one(2) ? numberOfValue(t) : t;
+        return both("guard(" + n + ", " + g + ", " + v + ", " + than + ")",
+                () -> x.guard(n, g, name, than), () -> m.guard(n, g, name, than));
+    }
+
+    /** One of the latest numbers, so that some guard speaks of one that a run meets. */
+    private int numberOfValue(int other) {
+        for (int i = m.values.size() - 1 - below(3); i >= 0; i--) if (m.values.get(i) instanceof Model.Num n) return n.number();
+        return other;
     }
 
     private String split() {
         int n = some(m.cases.size()), c = some(m.width());
+        for (int i = 0; i < 20 && !one(wild) && !m.maySplit(n, c); i++) {
+            n = some(m.cases.size());
+            c = some(m.width());
+        }
+        return splitAt(n, c);
+    }
+
+    private String splitAt(int n, int c) {
         return both("split(" + n + ", " + c + ")", () -> x.split(n, c), () -> m.split(n, c));
     }
 
     private String merge() {
         int n = some(m.cases.size() - (one(wild) ? 0 : 1)), c = some(m.width());
+        for (int i = 0; i < 20 && !one(wild) && !m.mayMerge(n, c); i++) {
+            n = some(m.cases.size() - 1);
+            c = some(m.width());
+        }
+        return mergeAt(n, c);
+    }
+
+    private String mergeAt(int n, int c) {
         return both("merge(" + n + ", " + c + ")", () -> x.merge(n, c), () -> m.merge(n, c));
     }
 
